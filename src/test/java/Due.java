@@ -44,4 +44,41 @@ final class Due {
         }
         return x;
     }
+
+    /** Cuts a block of four cells of one thick (10 .. 28): 20 times that is its weight; a shelf below 12. */
+    static int block(IceHouse x, int thick, boolean milky) {
+        openWater(x);
+        x.frost(40);
+        if (milky) {
+            x.snow(1);
+            x.frost(1);
+        }
+        lower(x, 28 - thick);
+        return x.cut(0);
+    }
+
+    /** Cuts one plain block, of which one cell alone is milked; its weight is 770. */
+    static int plainBlock(IceHouse x) {
+        openWater(x);
+        x.frost(40);
+        x.snow(1);
+        x.frost(1);
+        x.thaw(1);
+        x.cut(0);
+        x.cut(16);
+        x.frost(40);
+        x.cut(10);
+        x.frost(40);
+        return x.cut(1);
+    }
+
+    static void openWater(IceHouse x) {
+        lower(x, 60);
+    }
+
+    private static void lower(IceHouse x, int by) {
+        for (int left = by; left > 0; left -= 20) {
+            x.thaw(Math.min(20, left));
+        }
+    }
 }
