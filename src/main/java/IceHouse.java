@@ -165,9 +165,7 @@ public final class IceHouse {
         if (what < 0) {
             return finding(BEYOND);
         }
-        boolean fit = harvest.accepts(waiting);
-        waiting.clear();
-        if (!fit) {
+        if (!harvest.takeOver(waiting)) {
             return finding(STATE);
         }
         harvest.plan(lake);
@@ -357,9 +355,7 @@ public final class IceHouse {
         if (what < 0) {
             return finding(BEYOND);
         }
-        boolean fit = salesPlan.accepts(waiting);
-        waiting.clear();
-        if (!fit) {
+        if (!salesPlan.takeOver(waiting)) {
             return finding(STATE);
         }
         salesPlan.plan();
@@ -676,18 +672,15 @@ public final class IceHouse {
         private long thickEnough;
         private long horse;
 
-        boolean accepts(Waiting waiting) {
-            if (!within(waiting.size, 1, MAX_SQUARES) || waiting.hasTwins()) {
-                return false;
-            }
-            told = waiting.size;
+        /** Whether the numbers that waited are squares to plan with. */
+        boolean takeOver(Waiting waiting) {
+            told = waiting.handOver(squares);
             for (int i = 0; i < told; i++) {
-                squares[i] = waiting.numbers[i];
                 if (!Lake.isSquare(squares[i])) {
                     return false;
                 }
             }
-            return true;
+            return told > 0;
         }
 
         void plan(Lake lake) {
@@ -1216,18 +1209,15 @@ public final class IceHouse {
             this.orders = orders;
         }
 
-        boolean accepts(Waiting waiting) {
-            if (!within(waiting.size, 1, SALES_COLUMNS) || waiting.hasTwins()) {
-                return false;
-            }
-            told = waiting.size;
+        /** Whether the numbers that waited are columns to plan with. */
+        boolean takeOver(Waiting waiting) {
+            told = waiting.handOver(columns);
             for (int i = 0; i < told; i++) {
-                columns[i] = waiting.numbers[i];
                 if (!isColumn(columns[i])) {
                     return false;
                 }
             }
-            return true;
+            return told > 0;
         }
 
         void plan() {
@@ -1394,7 +1384,7 @@ public final class IceHouse {
 
     private static final class Waiting {
         int size;
-        final int[] numbers = new int[MAX_WAITING];
+        private final int[] numbers = new int[MAX_WAITING];
 
         int enter(int v) {
             numbers[size] = v;
@@ -1406,7 +1396,15 @@ public final class IceHouse {
             size = 0;
         }
 
-        boolean hasTwins() {
+        /** The numbers wait no more, but fill a row: how many; 0: none wait, too many, or two are the same. */
+        int handOver(int[] row) {
+            int handed = size <= row.length && !hasTwins() ? size : 0;
+            System.arraycopy(numbers, 0, row, 0, handed);
+            clear();
+            return handed;
+        }
+
+        private boolean hasTwins() {
             for (int i = 0; i < size; i++) {
                 for (int k = i + 1; k < size; k++) {
                     if (numbers[i] == numbers[k]) {

@@ -144,12 +144,19 @@ public final class HouseTest {
         for (int what = 0; what < 7; what++) {
             Due.is("ashore " + what, ashore[what], x.about(a, what));
         }
-        x.put(a, 10);
-        int[] housed = {2, 560, 1, 10, 0, 0, 7};
+        x.put(a, 0);
+        int b = Due.block(x, CLEAR, false);
+        x.put(b, 0);
+        int[] housed = {2, 560, 1, 0, 0, 560, 6};
+        int[] above = {1, 560, 1, 0, 1, 0, 3};
         for (int what = 0; what < 7; what++) {
             Due.is("housed " + what, housed[what], x.about(a, what));
+            Due.is("above it " + what, above[what], x.about(b, what));
         }
-        x.take(10);
+        Due.is("melts of column 0", 9, x.melts());
+        Due.is("weight of column 0", 1120, x.ledger(5));
+        x.take(0);
+        x.take(0);
         int[] gone = {2, 0, 2, -1, -1, 0, 0};
         for (int what = 0; what < 7; what++) {
             Due.is("gone " + what, gone[what], x.about(a, what));
@@ -157,7 +164,7 @@ public final class HouseTest {
         Due.is("what 7", Due.BEYOND, x.about(a, 7));
         Due.is("what -1", Due.BEYOND, x.about(a, -1));
         Due.is("block -1", Due.BEYOND, x.about(-1, 0));
-        Due.is("block 1", Due.BEYOND, x.about(1, 0));
+        Due.is("block 2", Due.BEYOND, x.about(2, 0));
     }
 
     private static void aboutLoadAndMelt() {
@@ -364,6 +371,13 @@ public final class HouseTest {
         Due.is("at", top, x.at(6, 0));
         Due.is("MELTED", 335, x.ledger(1));
         Due.is("BROKEN", 0, x.ledger(2));
+        int last = Due.block(x, SHELF, true);
+        x.put(last, 0);
+        Due.is("a milky one alone: 30 a week", 425 - 90 + 200 - 180, x.weeks(6));
+        x.weeks(1);
+        Due.is("the topmost goes too", 2, x.about(last, 2));
+        Due.is("its column is empty", Due.NONE, x.at(0, 0));
+        Due.is("one is left", 1, x.count(2));
     }
 
     private static void after() {

@@ -72,6 +72,9 @@ public final class LakeTest {
             x.scrape(row);
         }
         x.frost(40);
+        Due.is("root of 2209 and 800", 54, x.cell(0, 0));
+        x.frost(40);
+        Due.is("root of 2916 and 800", 60, x.cell(0, 0));
         x.frost(40);
         Due.is("60 at most", 60, x.cell(0, 0));
     }
@@ -109,6 +112,9 @@ public final class LakeTest {
         x.snow(10);
         Due.is("30 at most", 60 * 30, x.snow(10));
         Due.is("30", 30, x.cell(2, 1));
+        x.thaw(19);
+        Due.is("a thick of 1", 1, x.cell(2, 0));
+        Due.is("bears snow", 60 * 2, x.snow(2));
     }
 
     private static void scrape() {
@@ -149,6 +155,10 @@ public final class LakeTest {
         Due.is("water", 0, x.reached(0));
         x.frost(1);
         Due.is("4 bears a man", 64, x.reached(0));
+        for (int c = 0; c < 64; c++) {
+            Due.is("reach " + c, 1, x.reach(c, 0));
+            Due.is("reach " + c, 0, x.reach(c, 1));
+        }
         Due.is("4 no horse", 0, x.reached(1));
         x.thaw(1);
         Due.is("3 no man", 0, x.reached(0));
@@ -273,23 +283,14 @@ public final class LakeTest {
         oneMilked();
     }
 
-    /** Three cells are cut away and freeze anew without snow, so one of a square stays milked. */
     private static void oneMilked() {
-        IceHouse x = Due.frozen(40);
-        x.snow(1);
-        x.frost(1);
-        x.thaw(1);
-        x.cut(0);
-        x.cut(16);
-        x.frost(40);
-        x.cut(10);
-        x.frost(40);
-        Due.is("milked 2", 1, x.cell(2, 2));
-        Due.is("not 1", 0, x.cell(1, 2));
-        x.cut(1);
-        Due.is("cells 1, 2, 9, 10: one milked", 0, x.about(3, 0));
+        IceHouse x = new IceHouse();
+        int block = Due.plainBlock(x);
+        Due.is("cells 1, 2, 9, 10: one milked", 0, x.about(block, 0));
+        Due.is("cell 24", 0, x.cell(24, 2));
+        Due.is("cell 32", 1, x.cell(32, 2));
         x.cut(24);
-        Due.is("cells 24, 25, 32, 33: two milked", 2, x.about(4, 0));
+        Due.is("cells 24, 25, 32, 33: two milked", 2, x.about(block + 1, 0));
     }
 
     private static void season() {

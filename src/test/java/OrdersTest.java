@@ -9,6 +9,7 @@ public final class OrdersTest {
         serveInTheHeat();
         sales();
         salesShortestFirst();
+        salesOfSeveral();
         salesDeeper();
         salesAtMostFour();
         salesFindings();
@@ -167,8 +168,24 @@ public final class OrdersTest {
         row(x, new int[] {4, 9}, 70, 2, 0, 4, 2, 9, Due.NONE);
     }
 
-    /** 100 at once is better than 60 and 40, though these come ahead. */
+    /** Only order 0 fits either top, so it opens one column alone; both then bring the same, but column 1 sooner. */
     private static void salesShortestFirst() {
+        IceHouse x = new IceHouse();
+        x.put(Due.block(x, 20, true), 0);
+        x.put(Due.block(x, 20, true), 0);
+        x.put(Due.block(x, 10, true), 0);
+        x.put(Due.block(x, 28, false), 1);
+        x.put(Due.block(x, 10, true), 1);
+        x.order(0, 100, 9, 0, 7);
+        x.order(0, 300, 9, 0, 20);
+        x.order(0, 300, 9, 0, 30);
+        x.order(2, 300, 9, 0, 50);
+        row(x, new int[] {0}, 57, 3, 0, 0, 1, 0, 2, 0, Due.NONE);
+        row(x, new int[] {0, 1}, 57, 2, 0, 1, 3, 1, Due.NONE);
+        row(x, new int[] {1, 0}, 57, 2, 0, 1, 3, 1, Due.NONE);
+    }
+
+    private static void salesOfSeveral() {
         IceHouse x = new IceHouse();
         x.put(Due.block(x, 10, false), 0);
         x.put(Due.block(x, 10, true), 0);

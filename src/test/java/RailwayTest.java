@@ -42,6 +42,8 @@ public final class RailwayTest {
         Due.is("as changed", 28, x.icing(60, 0, -1));
         Due.is("had 10", 10, x.change(0, 7, 3, 4));
         Due.is("not enough", Due.NONE, x.icing(60, 0, -1));
+        Due.is("the last one", 0, x.change(1, 1, 60, 30));
+        Due.is("the last one again", 60, x.change(1, 1, 0, 0));
         Due.is("still two", 2, x.count(6));
     }
 
