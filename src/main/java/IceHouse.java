@@ -1285,10 +1285,12 @@ public final class IceHouse {
             }
         }
 
-        /** Without this the rows that can't be better than the best one would take most of the time. */
+        /**
+         * Without this, rows that can't be better would take most of the time. A row that is as dear as the
+         * best but shorter is still found: an order of the best is left over by it, and counts here.
+         */
         private boolean mayImprove(int length, int prices) {
-            return prices + dearest(MAX_SALES - length) > bestPrices
-                    || length < bestLength - 1 && prices + dearest(bestLength - 1 - length) >= bestPrices;
+            return prices + dearest(MAX_SALES - length) > bestPrices;
         }
 
         private int dearest(int n) {
