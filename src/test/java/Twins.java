@@ -1,4 +1,3 @@
-import java.lang.reflect.Method;
 import java.util.Arrays;
 
 /** The class and its plain model side by side: every call goes to both, and their answers must be the same. */
@@ -28,8 +27,8 @@ final class Twins {
     }
 
     int ask(String call, int... numbers) {
-        int want = answer(model, call, numbers);
-        int got = answer(real, call, numbers);
+        int want = Calls.ask(model, call, numbers);
+        int got = Calls.ask(real, call, numbers);
         Due.is(name + ": " + call + Arrays.toString(numbers), want, got);
         return want;
     }
@@ -60,18 +59,6 @@ final class Twins {
             ask("snow", from(1, 10));
             ask("frost", from(1, 40));
             ask("thaw", from(1, 8));
-        }
-    }
-
-    private static int answer(Object who, String call, int[] numbers) {
-        Object[] arguments = Arrays.stream(numbers).boxed().toArray();
-        Class<?>[] types = new Class<?>[numbers.length];
-        Arrays.fill(types, int.class);
-        try {
-            Method method = who.getClass().getDeclaredMethod(call, types);
-            return (Integer) method.invoke(who, arguments);
-        } catch (ReflectiveOperationException e) {
-            throw new IllegalStateException(call + Arrays.toString(numbers), e);
         }
     }
 }
