@@ -21,6 +21,7 @@ public final class LakeBoundsTest {
         theWeightIsOfTheFourCells();
         sixtyBlocksEver();
         seasonOfCellsInCommon();
+        seasonSoThatTheHorseComesHome();
         Due.end();
     }
 
@@ -345,5 +346,24 @@ public final class LakeBoundsTest {
             Due.tell(x, told[i]);
             Due.is("no more", Due.NONE, x.season(1 + want[i].length));
         }
+    }
+
+    /** Of row 0 one square stays: beside the last one no cell would be come to but over it. */
+    private static void seasonSoThatTheHorseComesHome() {
+        IceHouse x = Due.frozen(40);
+        int[] told = {0, 2, 4, 6};
+        Due.tell(x, told);
+        Due.is("three of four", 3, x.season(0));
+        int[] want = {0, 2, 4};
+        for (int i = 0; i < 3; i++) {
+            Due.tell(x, told);
+            Due.is("the one at " + i, want[i], x.season(1 + i));
+        }
+        Calls.run(x, "cut(0) cut(2) cut(4)");
+        Due.is("no horse to the last", 2, x.bars(6));
+        Due.tell(x, 6, 22);
+        Due.is("one of two", 1, x.season(0));
+        Due.tell(x, 6, 22);
+        Due.is("it is 22", 22, x.season(1));
     }
 }
