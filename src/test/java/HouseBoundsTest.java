@@ -47,6 +47,9 @@ public final class HouseBoundsTest {
             Due.is("at level 5", sixth, x.at(column, 5));
             Due.is("load of the lowest", 5 * 560, x.about(0, 5));
             Due.is("none is beside it", Due.NONE, x.at((column + 1) % 16, 0));
+            Due.is("the sixth is thrown out", sixth, x.take(column));
+            Due.is("then there is room", 5, x.put(seventh, column));
+            Due.is("but not for one more", Due.STATE, x.put(Due.block(x, CLEAR, false), column));
         }
     }
 
@@ -169,6 +172,14 @@ public final class HouseBoundsTest {
         Due.is("below", 12, x.about(0, 6));
         x.take(5);
         Due.is("now it is topmost", 15, x.about(0, 6));
+        IceHouse y = with(4, CLEAR, CLEAR);
+        Calls.run(y, "warmth(0, 40) dust(2, 7)");
+        Due.is("33 tenths below, nothing from above", 9, y.about(0, 6));
+        Due.is("43 tenths at the top", 12, y.about(1, 6));
+        y.cover(4, 9);
+        Due.is("34 tenths at the top", 10, y.about(1, 6));
+        y.cover(4, 10);
+        Due.is("33 tenths at the top", 9, y.about(1, 6));
     }
 
     private static void dustAndCoverOfTen() {
@@ -380,6 +391,9 @@ public final class HouseBoundsTest {
             bestIs(x, 40, 27, 0, 0, 0, 0);
             x.take(column);
             bestIs(x, 40, 15, 0, 0, 0, 0);
+            x.cover(column, 7);
+            Due.is("43 tenths, none from a wall", 12, x.best(40, 0));
+            x.cover(column, 0);
             x.put(Due.block(x, CLEAR, false), 0);
             Due.is("both, and the corner's 20", 15 + 9, x.best(40, 0));
         }

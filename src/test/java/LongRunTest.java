@@ -155,7 +155,7 @@ public final class LongRunTest {
     /** What was searched for once leaves nothing behind that another search would find. */
     private static void theSameAnswerAgain() {
         IceHouse x = Scene.with("check(0)");
-        for (int i = 0; i < 25; i++) {
+        for (int i = 0; i < 20; i++) {
             Due.tell(x, 5, 6);
             Due.is("sales", 140, x.sales(0));
             Due.tell(x, 1);
@@ -164,6 +164,8 @@ public final class LongRunTest {
             Due.is("season", 6, x.season(0));
             Due.tell(x, 5, 6);
             Due.is("a short season", 1, x.season(0));
+            Due.tell(x, 16, 18);
+            Due.is("a whole one", 2, x.season(0));
             Due.is("icing", 250, x.icing(40, 0, -1));
             Due.is("no icing", Due.NONE, x.icing(14, 0, -1));
         }

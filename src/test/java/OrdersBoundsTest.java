@@ -14,6 +14,8 @@ public final class OrdersBoundsTest {
         ofSeveralTheShortest();
         ofSeveralTheFirstAhead();
         theColumnsAsTheyWereTold();
+        tenOrdersThreeColumns();
+        aCheapOneThatComesAhead();
         Due.end();
     }
 
@@ -201,5 +203,35 @@ public final class OrdersBoundsTest {
         row(x, new int[] {11}, 5, 1, 1, 11);
         row(x, new int[] {0, 15, 11}, 5, 1, 1, 11);
         row(x, new int[] {0, 15, 1}, 0, 0);
+    }
+
+    /** All ten orders can be served from all three columns, six levels each: four of them are, the dearest. */
+    private static void tenOrdersThreeColumns() {
+        IceHouse x = new IceHouse();
+        for (int i = 0; i < 18; i++) {
+            x.put(Due.block(x, CLEAR, false), i % 3);
+        }
+        int[] prices = {5, 9, 1, 7, 9, 2, 9, 3, 8, 9};
+        for (int price : prices) {
+            x.order(0, 1, 9, 0, price);
+        }
+        row(x, new int[] {2, 1, 0}, 36, 4, 1, 2, 4, 2, 6, 2, 9, 2);
+        x.serve(6, 1);
+        row(x, new int[] {2, 1, 0}, 35, 4, 1, 2, 4, 2, 8, 2, 9, 2);
+        row(x, new int[] {0}, 35, 4, 1, 0, 4, 0, 8, 0, 9, 0);
+    }
+
+    /** Rows with order 0 come first, but the most is to be had without it. */
+    private static void aCheapOneThatComesAhead() {
+        IceHouse x = with(0, 4);
+        Calls.run(x, "order(0, 1, 9, 0, 1)");
+        for (int i = 1; i <= 4; i++) {
+            x.order(0, 1, 9, 0, 1000);
+        }
+        row(x, new int[] {0}, 4000, 4, 1, 0, 2, 0, 3, 0, 4, 0);
+        x.take(0);
+        row(x, new int[] {0}, 3000, 3, 1, 0, 2, 0, 3, 0);
+        x.put(Due.block(x, CLEAR, false), 1);
+        row(x, new int[] {1, 0}, 4000, 4, 1, 1, 2, 0, 3, 0, 4, 0);
     }
 }
