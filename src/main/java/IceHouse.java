@@ -669,6 +669,8 @@ public final class IceHouse {
         private final int[] squares = new int[MAX_SQUARES];
         private int told;
         private final int[] longest = new int[1 << MAX_SQUARES];
+        /** With which square such a row goes on, where there is one. */
+        private final int[] next = new int[1 << MAX_SQUARES];
         private long thickEnough;
         private long horse;
 
@@ -688,19 +690,20 @@ public final class IceHouse {
             horse = lake.bearing(HORSE);
             // Larger sets first: each set is asked through those with one square more.
             for (int cut = (1 << told) - 1; cut >= 0; cut--) {
-                longest[cut] = longestBehind(cut);
+                askBehind(cut);
             }
             walk();
         }
 
-        private int longestBehind(int cut) {
-            int most = 0;
+        private void askBehind(int cut) {
+            longest[cut] = 0;
             for (int i = 0; i < told; i++) {
-                if (mayFollow(i, cut)) {
-                    most = Math.max(most, 1 + longest[cut | 1 << i]);
+                // An equally long row stays behind the one whose square was told first.
+                if (mayFollow(i, cut) && 1 + longest[cut | 1 << i] > longest[cut]) {
+                    longest[cut] = 1 + longest[cut | 1 << i];
+                    next[cut] = i;
                 }
             }
-            return most;
         }
 
         private boolean mayFollow(int i, int cut) {
@@ -725,19 +728,9 @@ public final class IceHouse {
             length = longest[0];
             int cut = 0;
             for (int step = 0; step < length; step++) {
-                int next = firstOfLongest(cut);
-                row[step] = squares[next];
-                cut |= 1 << next;
+                row[step] = squares[next[cut]];
+                cut |= 1 << next[cut];
             }
-        }
-
-        private int firstOfLongest(int cut) {
-            for (int i = 0; i < told; i++) {
-                if (mayFollow(i, cut) && 1 + longest[cut | 1 << i] == longest[cut]) {
-                    return i;
-                }
-            }
-            return 0;
         }
     }
 
@@ -907,7 +900,7 @@ public final class IceHouse {
         int loadOver(int column, int level) {
             int load = 0;
             for (int above = level + 1; above < height[column]; above++) {
-                load += weight[blockAt(column, above)];
+                load += weight[pile[column * LEVELS + above]];
             }
             return load;
         }
